@@ -1,6 +1,6 @@
 /** Runs of calls, the same ones on the program and on SlowRounds: each answer must be alike. */
 public final class SlowTest {
-    private static final int RUNS = 400;
+    private static final int RUNS = 300;
     private static final int CALLS = 512;
     private static final int[] ODD = {-1, 4, 5, 20, 21, 40, 63, Integer.MIN_VALUE, Integer.MAX_VALUE};
 
@@ -122,8 +122,10 @@ public final class SlowTest {
         }
     }
 
+    /** NOTHING is drawn seldom: else most houses would be broken ones. */
     private static int notion(SlowRounds y) {
-        return number(y.count(0));
+        int n = number(y.count(0));
+        return n == 1 && draw(5) > 0 ? y.count(0) - 1 : n;
     }
 
     private static int role() {

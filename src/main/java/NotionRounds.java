@@ -433,7 +433,7 @@ public final class NotionRounds {
         return (mask & bit(n)) != 0;
     }
 
-    /** Every read and write of a row goes by these: no index leaves its row. */
+    /** Rows are read and written by these, or in a loop over all of a row: no index leaves its row. */
     private static int at(int[] row, int index) {
         return index >= 0 && index < row.length ? row[index] : NONE;
     }
@@ -487,6 +487,11 @@ public final class NotionRounds {
             | ((long) (first + 1) << FIRST_SHIFT)
             | ((long) (second + 1) << SECOND_SHIFT)
             | (axiom + 1);
+    }
+
+    /** No why at all, which is never the least one, where the second premise is not there. */
+    private static long whyOfTwo(int rule, int first, int second) {
+        return second == NONE ? NO_WHY : whyOf(rule, first, second, NONE);
     }
 
     private static int partOfWhy(long why, int shift, int bits) {
@@ -582,7 +587,7 @@ public final class NotionRounds {
         }
 
         boolean holding(int a) {
-            return knows(a) && part(a, HOLDING_PART) == 1;
+            return knows(a) && at(parts, a * AXIOM_PARTS + HOLDING_PART) == 1;
         }
 
         boolean holdingOf(int a, int sort) {
@@ -704,11 +709,11 @@ public final class NotionRounds {
         }
 
         boolean saysIs(int x, int d) {
-            return saysAt(placeOfIs(x, d));
+            return at(numbers, placeOfIs(x, d)) != NONE;
         }
 
         boolean saysTo(int x, int r, int y) {
-            return saysAt(placeOfTo(x, r, y));
+            return at(numbers, placeOfTo(x, r, y)) != NONE;
         }
 
         int firstPremise(int k) {
@@ -854,7 +859,7 @@ public final class NotionRounds {
             for (int m = 0; m < notions.size; m++) {
                 if (notions.sort(m) == MEET && notions.first(m) == d) {
                     int other = conclusions.numberOfIs(x, notions.second(m));
-                    offerIfThere(placeOfIs(x, m), RULE_MEETS, k, other);
+                    offer(placeOfIs(x, m), whyOfTwo(RULE_MEETS, k, other));
                 }
             }
         }
@@ -871,16 +876,11 @@ public final class NotionRounds {
             for (int h = 0; h < notions.size; h++) {
                 if (notions.sort(h) == HAS && roles.goesUnder(r, notions.first(h))) {
                     int other = conclusions.numberOfIs(y, notions.second(h));
-                    offerIfThere(placeOfIs(x, h), RULE_BACK, k, other);
+                    offer(placeOfIs(x, h), whyOfTwo(RULE_BACK, k, other));
                 }
             }
-            offerIfThere(placeOfIs(x, NOTHING), RULE_NONE, k, conclusions.numberOfIs(y, NOTHING));
-        }
-
-        private void offerIfThere(int place, int rule, int first, int second) {
-            if (second != NONE) {
-                offer(place, whyOf(rule, first, second, NONE));
-            }
+            int none = conclusions.numberOfIs(y, NOTHING);
+            offer(placeOfIs(x, NOTHING), whyOfTwo(RULE_NONE, k, none));
         }
 
         private void offerChains(int k, int x, int r, int y) {
