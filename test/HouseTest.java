@@ -11,6 +11,9 @@ public final class HouseTest {
         takenBackRoles();
         takenBackChain();
         deadIsNotPaired();
+        thingIsAThing();
+        thingInChains();
+        builtAnew();
         allOfTwenty();
         refusals();
         due.end();
@@ -73,7 +76,12 @@ public final class HouseTest {
         int nested = x.has(1, hasBoth);
         x.conclude();
         due.is("isOf(3, meet)", x.isOf(3, both), 1);
-        due.is("isOf(4, meet)", x.isOf(4, both), 0);
+        due.is("isOf(4, meet): no 3", x.isOf(4, both), 0);
+        due.is("isOf(2, meet): neither", x.isOf(2, both), 0);
+        int other = x.meet(2, 3);
+        x.conclude();
+        due.is("isOf(2, other meet): no 3", x.isOf(2, other), 0);
+        due.is("isOf(3, other meet): no 2", x.isOf(3, other), 0);
         due.is("isOf(2, has meet)", x.isOf(2, hasBoth), 1);
         due.is("isOf(3, has meet)", x.isOf(3, hasBoth), 0);
         due.is("isOf(2, has NOTHING)", x.isOf(2, hasNothing), 0);
@@ -171,6 +179,78 @@ public final class HouseTest {
         x.conclude();
         due.is("pair(2, 0, 3) when 2 is a thing", x.pair(2, 0, 3), 1);
         due.is("holds(2) then", x.holds(2), 0);
+    }
+
+    /** THING has something of itself by 0; what was said first is of roles. */
+    private static void thingIsAThing() {
+        NotionRounds x = new NotionRounds();
+        x.role(0, 1);
+        x.make();
+        x.has(0, 0);
+        x.say(0, 3);
+        x.say(0, 2);
+        x.role(0, 2);
+        x.unsay(3);
+        x.conclude();
+        due.is("things()", x.things(), 2);
+        due.is("isOf(0, 2)", x.isOf(0, 2), 1);
+        due.is("isOf(0, 3)", x.isOf(0, 3), 1);
+        due.is("pair(0, 0, 0)", x.pair(0, 0, 0), 1);
+        due.is("pair(0, 1, 0)", x.pair(0, 1, 0), 1);
+        due.is("pair(0, 2, 0)", x.pair(0, 2, 0), 0);
+        due.is("pair(2, 1, 0)", x.pair(2, 1, 0), 1);
+        due.is("pair(0, 1, 2)", x.pair(0, 1, 2), 0);
+        due.is("holds(0)", x.holds(0), 1);
+        due.is("holds(3): THING is paired by 0, not by 2", x.holds(3), 0);
+    }
+
+    private static void thingInChains() {
+        NotionRounds x = new NotionRounds();
+        x.chain(0, 0, 1);
+        x.chain(0, 0, 2);
+        x.has(0, 0);
+        x.say(0, 2);
+        x.unsay(1);
+        x.conclude();
+        due.is("to(0, 1, 0)", x.to(0, 1, 0) >= 0 ? 1 : 0, 1);
+        due.is("pair(0, 1, 0)", x.pair(0, 1, 0), 1);
+        due.is("pair(0, 2, 0)", x.pair(0, 2, 0), 0);
+        due.is("holds(0)", x.holds(0), 1);
+        due.is("holds(1)", x.holds(1), 0);
+        x.role(0, 3);
+        x.unsay(3);
+        x.unsay(0);
+        x.conclude();
+        due.is("holds(0) when it was taken back", x.holds(0), 0);
+        due.is("holds(3): THING alone is paired by 0, not by 3", x.holds(3), 0);
+    }
+
+    private static void builtAnew() {
+        NotionRounds x = new NotionRounds();
+        x.make();
+        x.make();
+        x.has(0, 3);
+        x.say(2, 4);
+        x.role(0, 3);
+        x.say(2, 3);
+        x.conclude();
+        due.is("pair(2, 0, 3)", x.pair(2, 0, 3), 1);
+        due.is("pair(2, 3, 3)", x.pair(2, 3, 3), 1);
+        due.is("isOf(2, 3)", x.isOf(2, 3), 1);
+        x.unsay(1);
+        x.unsay(2);
+        x.conclude();
+        due.is("pair(2, 3, 3) without the role", x.pair(2, 3, 3), 0);
+        due.is("isOf(2, 3) without its axiom", x.isOf(2, 3), 0);
+        x.unsay(0);
+        x.conclude();
+        due.is("pair(2, 0, 3) without what it has", x.pair(2, 0, 3), 0);
+        due.is("isOf(2, 4)", x.isOf(2, 4), 0);
+        x.say(0, 1);
+        x.conclude();
+        due.is("things() of a broken house", x.things(), 0);
+        due.is("isOf(0, 0)", x.isOf(0, 0), NONE);
+        due.is("holds(0): there is nothing", x.holds(0), 1);
     }
 
     /** Twenty notions, forty axioms, and all four roles in use. */

@@ -587,11 +587,11 @@ public final class NotionRounds {
         }
 
         boolean holding(int a) {
-            return knows(a) && at(parts, a * AXIOM_PARTS + HOLDING_PART) == 1;
+            return knows(a) && part(a, HOLDING_PART) == 1;
         }
 
         boolean holdingOf(int a, int sort) {
-            return holding(a) && part(a, 0) == sort;
+            return part(a, HOLDING_PART) == 1 && part(a, 0) == sort;
         }
 
         int holdingCount() {
@@ -911,7 +911,6 @@ public final class NotionRounds {
                     all |= bit(x);
                 }
             }
-            fill(membersOf, 0);
             fill(partnersOf, 0);
             for (int x = 0; x < notions.size; x++) {
                 for (int y = 0; y < notions.size; y++) {
