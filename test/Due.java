@@ -16,6 +16,11 @@ final class Due {
         }
     }
 
+    /** A new object, to be asked about a sentence of the document, which stands with each wrong answer. */
+    Talk on(String sentence) {
+        return new Talk(this, sentence);
+    }
+
     /** All nine numbers of conclusion k, in the order that conclusion() tells them. */
     void row(String call, NotionRounds x, int k, int... want) {
         for (int what = 0; what < want.length; what++) {
