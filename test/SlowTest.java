@@ -1,131 +1,103 @@
+import java.util.Arrays;
+
 /** Runs of calls, the same ones on the program and on SlowRounds: each answer must be alike. */
 public final class SlowTest {
     private static final int RUNS = 300;
     private static final int CALLS = 512;
     private static final int[] ODD = {-1, 4, 5, 20, 21, 40, 63, Integer.MIN_VALUE, Integer.MAX_VALUE};
+    private static final String[] TELLING = {
+        "notion", "axiom", "rounds", "things", "conclusion", "is", "to", "proof", "under", "like", "parent", "broken",
+        "count", "isOf", "pair", "holds"
+    };
 
     private static final Due due = new Due("SlowTest");
     private static long state = 1;
 
+    private final int run;
+    private final NotionRounds x = new NotionRounds();
+    private final SlowRounds y = new SlowRounds();
+    private int calls = 0;
+
+    private SlowTest(int run) {
+        this.run = run;
+    }
+
     public static void main(String[] args) {
         for (int run = 0; run < RUNS; run++) {
             state = 7919L * run + 17;
-            NotionRounds x = new NotionRounds();
-            SlowRounds y = new SlowRounds();
-            int rich = draw(8);
-            for (int call = 0; call < CALLS; call++) {
-                oneCall("run " + run + ", call " + call, x, y, rich);
-            }
+            new SlowTest(run).ask();
         }
         due.end();
     }
 
     /** The runs differ in what they make most, so that none of the rules stays rare. */
-    private static void oneCall(String at, NotionRounds x, SlowRounds y, int rich) {
-        int kind = draw(100);
-        if (kind < 25) {
-            building(at, x, y, draw(10) < 4 ? rich : draw(8));
-        } else if (kind < 29) {
-            due.is(at + ": conclude()", x.conclude(), y.conclude());
-            due.is(at + ": digest()", x.digest(), y.digest());
-        } else {
-            asking(at, x, y, draw(14));
+    private void ask() {
+        int rich = draw(8);
+        while (calls < CALLS) {
+            int kind = draw(100);
+            if (kind < 25) {
+                build(draw(10) < 4 ? rich : draw(8));
+            } else if (kind < 29) {
+                alike("conclude");
+                alike("digest");
+            } else {
+                tell(TELLING[draw(TELLING.length)]);
+            }
         }
     }
 
-    private static void building(String at, NotionRounds x, SlowRounds y, int kind) {
-        int a = notion(y);
-        int b = notion(y);
-        int r = role();
-        int s = role();
-        int t = role();
-        switch (kind) {
-            case 0:
-                due.is(at + ": make()", x.make(), y.make());
-                break;
-            case 1:
-                due.is(at + ": meet(" + a + ", " + b + ")", x.meet(a, b), y.meet(a, b));
-                break;
-            case 2:
-                due.is(at + ": has(" + r + ", " + a + ")", x.has(r, a), y.has(r, a));
-                break;
-            case 3:
-            case 4:
-                due.is(at + ": say(" + a + ", " + b + ")", x.say(a, b), y.say(a, b));
-                break;
-            case 5:
-                due.is(at + ": role(" + r + ", " + s + ")", x.role(r, s), y.role(r, s));
-                break;
-            case 6:
-                due.is(at + ": chain(" + r + ", " + s + ", " + t + ")", x.chain(r, s, t), y.chain(r, s, t));
-                break;
-            default:
-                a = number(y.count(2));
-                due.is(at + ": unsay(" + a + ")", x.unsay(a), y.unsay(a));
-                break;
+    private void alike(String name, int... given) {
+        calls++;
+        if (calls <= CALLS) {
+            String call = "run " + run + ", call " + calls + ": " + name + Arrays.toString(given);
+            due.is(call, Call.on(x, name, given), Call.on(y, name, given));
         }
     }
 
-    private static void asking(String at, NotionRounds x, SlowRounds y, int kind) {
-        int a = notion(y);
-        int b = notion(y);
-        int r = role();
-        int k = number(Math.max(1, y.toldSize()));
-        int what = number(9);
-        int axiom = number(y.count(2));
+    private void build(int kind) {
         switch (kind) {
-            case 0:
-                due.is(at + ": notion(" + a + ", " + what + ")", x.notion(a, what), y.notion(a, what));
-                break;
-            case 1:
-                due.is(at + ": axiom(" + axiom + ", " + what + ")", x.axiom(axiom, what), y.axiom(axiom, what));
-                break;
-            case 2:
-                due.is(at + ": rounds()", x.rounds(), y.rounds());
-                due.is(at + ": things()", x.things(), y.things());
-                break;
+            case 0: alike("make"); break;
+            case 1: alike("meet", notion(), notion()); break;
+            case 2: alike("has", role(), notion()); break;
             case 3:
-                due.is(at + ": conclusion(" + k + ", " + what + ")", x.conclusion(k, what), y.conclusion(k, what));
-                break;
-            case 4:
-                due.is(at + ": is(" + a + ", " + b + ")", x.is(a, b), y.is(a, b));
-                break;
-            case 5:
-                due.is(at + ": to(" + a + ", " + r + ", " + b + ")", x.to(a, r, b), y.to(a, r, b));
-                break;
-            case 6:
-                due.is(at + ": proof(" + k + ")", x.proof(k), y.proof(k));
-                break;
-            case 7:
-                due.is(at + ": under(" + a + ", " + b + ")", x.under(a, b), y.under(a, b));
-                break;
-            case 8:
-                due.is(at + ": like(" + a + ")", x.like(a), y.like(a));
-                break;
-            case 9:
-                what = draw(6) - 1;
-                due.is(at + ": parent(" + a + ", " + what + ")", x.parent(a, what), y.parent(a, what));
-                break;
-            case 10:
-                due.is(at + ": broken()", x.broken(), y.broken());
-                due.is(at + ": count(" + what + ")", x.count(what), y.count(what));
-                break;
-            case 11:
-                due.is(at + ": isOf(" + a + ", " + b + ")", x.isOf(a, b), y.isOf(a, b));
-                break;
-            case 12:
-                due.is(at + ": pair(" + a + ", " + r + ", " + b + ")", x.pair(a, r, b), y.pair(a, r, b));
-                break;
-            default:
-                due.is(at + ": holds(" + axiom + ")", x.holds(axiom), y.holds(axiom));
-                break;
+            case 4: alike("say", notion(), notion()); break;
+            case 5: alike("role", role(), role()); break;
+            case 6: alike("chain", role(), role(), role()); break;
+            default: alike("unsay", axiom()); break;
+        }
+    }
+
+    private void tell(String name) {
+        switch (name) {
+            case "notion": alike(name, notion(), number(4)); break;
+            case "axiom": alike(name, axiom(), number(6)); break;
+            case "conclusion": alike(name, conclusion(), number(10)); break;
+            case "proof": alike(name, conclusion()); break;
+            case "like": alike(name, notion()); break;
+            case "parent": alike(name, notion(), draw(6) - 1); break;
+            case "holds": alike(name, axiom()); break;
+            case "count": alike(name, number(6)); break;
+            case "to":
+            case "pair": alike(name, notion(), role(), notion()); break;
+            case "is":
+            case "under":
+            case "isOf": alike(name, notion(), notion()); break;
+            default: alike(name); break;
         }
     }
 
     /** NOTHING is drawn seldom: else most houses would be broken ones. */
-    private static int notion(SlowRounds y) {
+    private int notion() {
         int n = number(y.count(0));
         return n == 1 && draw(5) > 0 ? y.count(0) - 1 : n;
+    }
+
+    private int axiom() {
+        return number(y.count(2));
+    }
+
+    private int conclusion() {
+        return number(Math.max(1, y.toldSize()));
     }
 
     private static int role() {
