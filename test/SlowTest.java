@@ -2,7 +2,7 @@ import java.util.Arrays;
 
 /** Runs of calls, the same ones on the program and on SlowRounds: each answer must be alike. */
 public final class SlowTest {
-    private static final int RUNS = 300;
+    private static final int RUNS = 240;
     private static final int CALLS = 512;
     private static final int[] ODD = {-1, 4, 5, 20, 21, 40, 63, Integer.MIN_VALUE, Integer.MAX_VALUE};
     private static final String[] TELLING = {
