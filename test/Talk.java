@@ -59,6 +59,15 @@ final class Talk {
         return answer(found.group(1), numbers(found.group(2)));
     }
 
+    /** What the slow reading of the document answers to the same words. */
+    static long onSlow(SlowRounds slow, String call) {
+        Matcher found = CALL.matcher(call);
+        if (!found.matches()) {
+            throw new IllegalArgumentException("no call: " + call);
+        }
+        return Call.on(slow, found.group(1), numbers(found.group(2)));
+    }
+
     void is(String call, long want) {
         due.is(place(call), answer(call), want);
     }
