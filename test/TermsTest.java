@@ -388,7 +388,7 @@ public final class TermsTest {
             .asks("to(2, 1, 3) = NONE");
         due.on("THE HOUSE: .. y a thing of it")
             .asks("make() = 2, make() = 3, has(0, 3) = 4, say(2, 4), say(3, 1), conclude(), to(2, 0, 3) = 7, pair(2, 0, 3) = 0");
-        due.on("THE HOUSE: x, too, is a thing of it (NOTES.md)")
+        due.on("MEANING: in any house with things .., a ROLE any pairs: x, too, is a thing of it (NOTES.md)")
             .asks("make() = 2, make() = 3, has(0, 3) = 4, say(2, 4), say(2, 1), conclude(), to(2, 0, 3) = 7, pair(2, 0, 3) = 0");
     }
 }
